@@ -12,6 +12,7 @@ public final class ModelTest {
     private GroupBids fast;
     private SlowModel slow;
     private int n;
+    private boolean longRow;
     private String run = "";
 
     private ModelTest(long seed) {
@@ -132,11 +133,11 @@ public final class ModelTest {
     // auctions
 
     private String auctionText() {
-        n = any(3) == 0 ? 2 + any(2) : 2 + any(4);
+        n = longRow ? 5 : any(3) == 0 ? 2 + any(2) : 2 + any(4);
         StringBuilder text = new StringBuilder("group " + n + ";");
-        int players = 1 + any(5);
+        int players = 1 + any(longRow ? 2 : 5);
         for (int i = 0; i < players; i++) {
-            text.append("player ").append(any(any(3) == 0 ? 40 : 99999)).append(";");
+            text.append("player ").append(any(any(3) == 0 && !longRow ? 40 : 99999)).append(";");
         }
         for (int lot = any(4) == 0 ? any(3) : 12; lot > 0; lot--) {
             text.append("lot ").append(1 + any(9999)).append(";");
@@ -144,7 +145,7 @@ public final class ModelTest {
         if (any(3) != 0) {
             text.append("price ").append(any(2) == 0 ? rule(2) : "base+bids*order").append(";");
         }
-        while (text.length() < 640 && any(20) != 0) {
+        while (text.length() < 640 && any(longRow ? 60 : 20) != 0) {
             text.append("card ").append(any(players)).append(" ").append(element()).append(" ")
                     .append(1 + any(any(3) == 0 ? 999 : 20)).append(";");
         }
@@ -156,14 +157,17 @@ public final class ModelTest {
         slow = new SlowModel();
         run = "round " + round + ": ";
         boolean bigHands = any(30) == 0;
-        // load and what stands behind it take at most 40 calls, a round of the loop at most 11
-        for (int calls = 0; calls + 52 < 512; calls += 11) {
-            if (calls == 0 || any(60) == 0) {
+        longRow = any(3) == 0;
+        // load and what stands behind it take at most 40 calls, a round of the loop about 15
+        for (int calls = 0; calls + 60 < 512; calls += 20) {
+            if (calls == 0 || slow.state(3) == -1 && any(3) == 0 || any(60) == 0) {
                 String text = auctionText();
                 same("load of " + text, text);
-                calls += 41;
+                calls += 40;
             }
-            change();
+            for (int i = 0; i < 4; i++) {
+                change();
+            }
             ask("checksum", () -> fast.checksum(), () -> slow.checksum());
             question(bigHands);
             if (any(4) == 0) {
@@ -189,10 +193,31 @@ public final class ModelTest {
     }
 
     private void change() {
-        int kind = any(20);
-        int player = anyPlayer();
+        int kind = longRow && any(3) != 0 ? any(2) * 13 : any(20);
+        int player = any(2) == 0 ? slow.state(4) : anyPlayer();
         int card = place(cardsInTurn());
         int bid = place(slow.state(5));
+        if (kind >= 8 && kind < 11 && any(4) != 0) {
+            int[] pair = cancelling(card, bid);
+            card = pair[0];
+            bid = pair[1];
+        }
+        change(kind, player, card, bid);
+    }
+
+    /** A card of the player in turn and a bid that it cancels, if there are such. */
+    private int[] cancelling(int card, int bid) {
+        for (int i = 0; i < cardsInTurn() && slow.state(4) >= 0; i++) {
+            for (int j = 0; j < slow.state(5); j++) {
+                if (slow.card(slow.state(4), i, 0) == slow.inverse(slow.bid(j, 1)) && any(3) != 0) {
+                    return new int[] {i, j};
+                }
+            }
+        }
+        return new int[] {card, bid};
+    }
+
+    private void change(int kind, int player, int card, int bid) {
         int element = wantedElement(bid);
         int base = any(12) == 0 ? any(1100) - 20 : 1 + any(15);
         if (kind < 8) {

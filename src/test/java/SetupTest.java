@@ -120,6 +120,12 @@ public final class SetupTest {
         bad("player 2;", SYNTAX, 0);
         bad("groups 2;", SYNTAX, 0);
         bad("grou 2;", SYNTAX, 0);
+        bad("groupz 2;", SYNTAX, 0);
+        bad("groupa 2;", SYNTAX, 0);
+        bad("group` 2;", SYNTAX, 5);
+        bad("group{ 2;", SYNTAX, 5);
+        bad("group/2;", SYNTAX, 5);
+        bad("group:2;", SYNTAX, 5);
         bad("Group 2;", SYNTAX, 0);
         bad("gr oup 2;", SYNTAX, 0);
         bad("group 2;;", SYNTAX, 8);
