@@ -76,11 +76,11 @@ public final class HandTest {
         Check.due("9: product()", 231, y::product);
         Check.due("17: fewest(0)", 2, () -> y.fewest(0));
         Check.due("19: opening(0)", 0, () -> y.opening(0));
-        // product 213 with 231 in the hand: 231 first, then 132; or 321 first, then 231
+        // 213 * 312 = 132, which is its own inverse; 213 * 132 = 312 is not the inverse of 312
         GroupBids z = Check.loaded("group 3;player 9;card 0 213 1;card 0 132 1;card 0 312 1;lot 9;");
         z.play(0);
         Check.due("17: fewest(0)", 2, () -> z.fewest(0));
-        Check.due("19: opening(0)", z.multiply(213, z.multiply(132, 312)) == 123 ? 0 : 1, () -> z.opening(0));
+        Check.due("19: opening(0)", 1, () -> z.opening(0));
     }
 
     private static void overAndWithoutTurn() {
