@@ -1,4 +1,7 @@
+import java.io.IOException;
 import java.nio.charset.StandardCharsets;
+import java.nio.file.Files;
+import java.nio.file.Path;
 import java.util.Objects;
 
 /** What all tests share: they print each answer that is not due, and end with exit code 1 if there was one. */
@@ -7,8 +10,13 @@ final class Check {
         Object answer();
     }
 
+    private static final Path DOCUMENT = Path.of("../shared/DOC.md");
+
     private static int asked = 0;
     private static int wrong = 0;
+    private static int sentences = 0;
+    private static String sentence = "";
+    private static String document = "";
 
     private Check() {
     }
@@ -27,8 +35,34 @@ final class Check {
         String got = answerOf(call);
         if (!Objects.equals(got, String.valueOf(want))) {
             wrong++;
-            System.out.println(what + " answered " + got + ", due is " + want);
+            System.out.println(sentence + what + " answered " + got + ", due is " + want);
         }
+    }
+
+    /** The test of one sentence of the document, told in the document's own words. */
+    static void sentence(String words, Runnable test) {
+        sentences++;
+        sentence = "\"" + words + "\": ";
+        // a text that is not the document's would hide that nothing tests what the document says now
+        due("stands in the document", true, () -> isInDocument(words));
+        try {
+            test.run();
+        } catch (RuntimeException e) {
+            wrong++;
+            System.out.println(sentence + "ended by " + e);
+        }
+        sentence = "";
+    }
+
+    private static boolean isInDocument(String words) {
+        if (document.isEmpty() && Files.exists(DOCUMENT)) {
+            try {
+                document = Files.readString(DOCUMENT).replaceAll("\\s+", " ");
+            } catch (IOException e) {
+                throw new IllegalStateException(e);
+            }
+        }
+        return document.isEmpty() || document.contains(words);
     }
 
     static int wrong() {
@@ -36,7 +70,7 @@ final class Check {
     }
 
     static void end() {
-        System.out.println(asked + " calls, " + wrong + " wrong");
+        System.out.println((sentences > 0 ? sentences + " sentences, " : "") + asked + " calls, " + wrong + " wrong");
         if (wrong != 0) {
             System.exit(1);
         }
