@@ -28,8 +28,8 @@ public final class ChangesEdgeTest {
     }
 
     private static void changingMethods() {
-        Check.sentence("The changing methods are load (when it succeeds), play, cancel, pass, give and discard;",
-                () -> {
+        Check.sentence("The changing methods are load (when it succeeds), play, cancel, pass, give and "
+                + "discard;", () -> {
             GroupBids x = new GroupBids();
             long[] sums = new long[7];
             Check.Call[] changes = {
@@ -213,8 +213,8 @@ public final class ChangesEdgeTest {
                 noSuchPlayer(x, player, 123);
             }
         });
-        Check.sentence("IllegalArgumentException is thrown if one named element, first or second is not an element.",
-                () -> {
+        Check.sentence("IllegalArgumentException is thrown if one named element, first or second is not an "
+                + "element.", () -> {
             GroupBids x = Check.loaded("group 3;player 5;lot 5;");
             for (int none : new int[] {0, 1, 12, 21, 122, 124, 320, 322, 1234, 1230, -123, Integer.MAX_VALUE,
                 Integer.MIN_VALUE}) {
@@ -314,9 +314,9 @@ public final class ChangesEdgeTest {
         Check.due("load(20)", 1, () -> x.load(20));
         // an auction that is over
         for (Check.Call call : new Check.Call[] {() -> x.play(0), () -> x.cancel(0, 0), x::pass}) {
-            x.pass();
+            Edge.pass(x, 1);
             Edge.keeps(x, "a turn when it is over", Edge.REFUSES, call);
-            x.undo();
+            Edge.undo(x, 4);
         }
     }
 

@@ -136,6 +136,18 @@ public final class HandsEdgeTest {
             // each used at most once: 231 once more would be needed
             wins(hand(3, 231, 231), -1, -1, -1);
             wins(hand(3, 231, 231, 231), 2, 3, 0);
+            // nor does it matter that there is no room for a 21st bid
+            GroupBids x = Check.loaded("group 5;player 9;player 0;lot 5;price 0;");
+            Edge.bidWith(x, 21345, 1, 0);
+            for (int bid = 1; bid < 20; bid++) {
+                Edge.pass(x, 0);
+                Edge.bidWith(x, 12345, 1, 0);
+            }
+            Edge.state(x, 5, 20);
+            Edge.give(x, 1, 12345, 7, 1);
+            wins(x, -1, -1, -1);
+            Edge.give(x, 1, 21345, 8, 2);
+            wins(x, 1, 8, 1);
             // the product comes first: 213 before 231 is 321, 231 before 213 is 132
             wins(hand(3, 213, 231, 321), 2, 3, 0);
             wins(hand(3, 213, 231, 132), 2, 3, 1);
@@ -193,8 +205,8 @@ public final class HandsEdgeTest {
     }
 
     private static void cheapest() {
-        Check.sentence("Returns the smallest sum of base prices of cards with which it can win; -1 if it cannot.",
-                () -> {
+        Check.sentence("Returns the smallest sum of base prices of cards with which it can win; -1 if it "
+                + "cannot.", () -> {
             cheapestIs(hand(3, 123), -1);
             cheapestIs(hand(3, 123, 231), -1);
             cheapestIs(hand(3, 123, 123), 1);
@@ -222,22 +234,21 @@ public final class HandsEdgeTest {
             wins(hand(3, 231, 231, 231, 312), 1, 3, 2);
         });
         Check.sentence("Returns the place of the card that is to be used first; of several the smallest one; -1 if it "
-                + "cannot win.",
-                () -> {
-                    opens(hand(3, 123), -1);
-                    opens(hand(3, 123, 231, 231), -1);
-                    opens(hand(3, 123, 231, 123), 1);
-                    opens(hand(3, 123, 231, 123, 123), 1);
-                    // the last of eight, and the first of eight
-                    opens(hand(2, 21, 12, 12, 12, 12, 12, 12, 12, 21), 7);
-                    opens(hand(2, 21, 21, 21, 21, 21, 21, 21, 21, 21), 0);
-                    // in one order only: 132 before 213 is 231, which the product 312 needs
-                    opens(hand(3, 312, 213, 132), 1);
-                    opens(hand(3, 312, 132, 213), 0);
-                    // 321 before 132, 132 before 213, and 213 before 321 are 231: each but the neutral one can be first
-                    opens(hand(3, 312, 321, 213, 132), 0);
-                    opens(hand(3, 312, 123, 213, 132, 321), 1);
-                });
+                + "cannot win.", () -> {
+            opens(hand(3, 123), -1);
+            opens(hand(3, 123, 231, 231), -1);
+            opens(hand(3, 123, 231, 123), 1);
+            opens(hand(3, 123, 231, 123, 123), 1);
+            // the last of eight, and the first of eight
+            opens(hand(2, 21, 12, 12, 12, 12, 12, 12, 12, 21), 7);
+            opens(hand(2, 21, 21, 21, 21, 21, 21, 21, 21, 21), 0);
+            // in one order only: 132 before 213 is 231, which the product 312 needs
+            opens(hand(3, 312, 213, 132), 1);
+            opens(hand(3, 312, 132, 213), 0);
+            // 321 before 132, 132 before 213, and 213 before 321 are 231: each but the neutral one can be first
+            opens(hand(3, 312, 321, 213, 132), 0);
+            opens(hand(3, 312, 123, 213, 132, 321), 1);
+        });
     }
 
     private static void opens(GroupBids x, int want) {

@@ -236,6 +236,8 @@ public final class PromisesEdgeTest {
             Edge.undo(x, 4);
             Edge.states(x, 2, 2, 2, 1, 1);
         });
+        Check.sentence("5 the number of bids, 6 the pot, 7 the number of passes in a row, 8 what went to the house so "
+                + "far", PromisesEdgeTest::fullestLot);
         Check.sentence("Throws `IllegalArgumentException` if what is out of range", () -> {
             GroupBids x = Check.loaded("group 2;player 5;player 6;card 0 21 3;card 0 12 4;lot 1;");
             Edge.play(x, 0, 0);
@@ -248,6 +250,22 @@ public final class PromisesEdgeTest {
                 Edge.keeps(x, "bid(0, " + what + ")", Edge.WRONG, () -> x.bid(0, what));
             }
         });
+    }
+
+    /** 20 bids of 9999 each, and as many passes as there can be without the lot being withdrawn. */
+    private static void fullestLot() {
+        GroupBids x = Check.loaded("group 2;" + Edge.times(5, "player 99999;") + "lot 9999;price 9999;");
+        for (int bid = 0; bid < 20; bid++) {
+            Edge.bidWith(x, bid == 0 ? 21 : 12, 1, 0);
+            Edge.state(x, 5, bid + 1);
+            Edge.state(x, 6, 9999 * (bid + 1));
+        }
+        for (int passes = 1; passes <= 4; passes++) {
+            Edge.pass(x, 0);
+            Edge.states(x, 2, 5, 1, 0, passes, 20, 199980, passes, 0);
+        }
+        Edge.pass(x, 1);
+        Edge.states(x, 2, 5, 1, -1, -1, 0, 0, 0, 199980);
     }
 
     private static void playerCardBid() {

@@ -145,6 +145,8 @@ public final class SetupEdgeTest {
             Edge.bad("group{ 2;", SYNTAX, 5);
             Edge.bad("group\u00e9 2;", SYNTAX, 5);
             Edge.bad("group_ 2;", SYNTAX, 5);
+            Edge.bad("groupA 2;", SYNTAX, 5);
+            Edge.bad("groupZ 2;", SYNTAX, 5);
             // the letters a and z belong to a run
             Edge.bad("groupa 2;", SYNTAX, 0);
             Edge.bad("groupz 2;", SYNTAX, 0);

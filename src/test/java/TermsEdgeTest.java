@@ -94,11 +94,12 @@ public final class TermsEdgeTest {
             everyElement(5, 120, 23451, 21345);
             Edge.bad("group 6;", Edge.RANGE, 6);
         });
-        Check.sentence("An element is told as a number with n digits, in which each of the digits 1 to n stands once",
-                () -> {
+        Check.sentence("An element is told as a number with n digits, in which each of the digits 1 to n stands "
+                + "once", () -> {
             for (int n = 2; n <= 5; n++) {
                 everyNumber(n, -1, (int) Math.pow(10, n) * 6 / 5 + 2);
-                everyNumber(n, -12346, -12344);
+                everyNumber(n, -Edge.neutral(n) - 1, -Edge.neutral(n) + 1);
+                everyNumber(n, -54321, -54321);
                 everyNumber(n, 1234567890, 1234567890);
                 everyNumber(n, Integer.MAX_VALUE, Integer.MAX_VALUE);
                 everyNumber(n, Integer.MIN_VALUE, Integer.MIN_VALUE);
@@ -111,12 +112,11 @@ public final class TermsEdgeTest {
             Check.due("inverse(2341)", 4123, () -> x.inverse(2341));
         });
         Check.sentence("The product of a and b (in this order) takes each point where b takes the point to which a "
-                + "takes it.",
-                () -> {
-                    GroupBids x = Check.loaded("group 3;");
-                    Check.due("multiply(231, 213)", 132, () -> x.multiply(231, 213));
-                    Check.due("multiply(213, 231)", 321, () -> x.multiply(213, 231));
-                });
+                + "takes it.", () -> {
+            GroupBids x = Check.loaded("group 3;");
+            Check.due("multiply(231, 213)", 132, () -> x.multiply(231, 213));
+            Check.due("multiply(213, 231)", 321, () -> x.multiply(213, 231));
+        });
     }
 
     /** Both generators make the whole group, and no element beside it. */

@@ -236,6 +236,17 @@ public final class TurnsEdgeTest {
             Edge.state(x, 7, 1);
             Edge.cancel(x, 1, 0, 0);
             Edge.state(x, 7, 0);
+            // and nothing else does
+            Edge.pass(x, 0);
+            Edge.give(x, 0, 213, 5, 1);
+            Edge.give(x, 1, 213, 5, 2);
+            x.discard(0, 0);
+            Edge.state(x, 7, 1);
+            Edge.undo(x, 7);
+            Edge.undo(x, 6);
+            Edge.undo(x, 5);
+            Edge.undo(x, 4);
+            Edge.state(x, 7, 0);
             // so it takes three passes again
             Edge.pass(x, 0);
             Edge.pass(x, 0);
@@ -288,6 +299,17 @@ public final class TurnsEdgeTest {
         Edge.purse(x, 0, 7);
         // one 1 came back to it, and the pot held 3
         Edge.purse(x, 1, 9 - 1 - 1 + 1 + 3 + 5);
+        // he who cancels the bid of another wins too, and the other gets its price back
+        GroupBids z = Check.loaded("group 3;player 9;player 9;player 9;card 0 213 1;card 1 231 2;card 2 213 3;"
+                + "card 0 312 4;lot 5;");
+        Edge.play(z, 0, 0);
+        Edge.play(z, 0, 0);
+        Edge.play(z, 0, 0);
+        Edge.cancel(z, 0, 1, 1);
+        Edge.wins(z, 0, 1);
+        Edge.wins(z, 1, 0);
+        Edge.purse(z, 0, 9 - 1 - 4 + 1 + 3 + 4 + 5);
+        Edge.purse(z, 1, 9);
         // a cancel that leaves bids with another product wins nothing
         GroupBids y = Check.loaded("group 3;player 9;card 0 213 1;card 0 231 1;card 0 312 1;lot 5;");
         Edge.play(y, 0, 0);
